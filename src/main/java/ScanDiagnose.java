@@ -32,8 +32,8 @@ public final class ScanDiagnose {
     // The circuit can't change under noted observations, so it is enough to keep what each
     // observation rules out; the observations themselves are never needed again.
     private final boolean[] fits = new boolean[MAX_FAULTS];
-    private boolean healthyFits = true;
-    private int observationCount = 0;
+    private boolean healthyFits;
+    private int observationCount;
 
     // Scratch: filled anew by every run, or by every question about alike faults.
     private final int[] lineValue = new int[MAX_LINES];

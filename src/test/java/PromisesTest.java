@@ -56,6 +56,17 @@ public final class PromisesTest {
     return x;
   }
 
+  /** Line 12 joins all inputs and states, and alone is seen; line 13 is read by nothing. */
+  private static ScanDiagnose chain(int kind) {
+    ScanDiagnose x = new ScanDiagnose();
+    x.gate(kind, 0, 1);
+    for (int line = 2; line <= 6; line++) x.gate(kind, line, line + 5);
+    x.gate(kind, 0, 0);
+    for (int k = 0; k < 3; k++) x.feed(k, 12);
+    for (int k = 0; k < 2; k++) x.output(k, 12);
+    return x;
+  }
+
   private static void aNewObject() {
     ScanDiagnose x = new ScanDiagnose();
     due("lines", x.lines(), 7);
@@ -546,6 +557,8 @@ public final class PromisesTest {
     y.inject(9);
     y.observe(0b0010001, 1);
     due("one cycle hides it", y.healthy(), 1);
+    y.observe(0b0010001, 3);
+    due("three cycles of 1s hide it", y.healthy(), 1);
     y.observe(0b0010000, 2);
     due("two cycles show it", y.healthy(), 0);
   }
@@ -573,13 +586,7 @@ public final class PromisesTest {
   }
 
   private static void lastNextPattern() {
-    ScanDiagnose x = new ScanDiagnose();
-    // Line 12 is the AND of all inputs and states, and alone is seen; line 13 is read by nothing.
-    x.gate(AND, 0, 1);
-    for (int line = 2; line <= 6; line++) x.gate(AND, line, line + 5);
-    x.gate(AND, 0, 0);
-    for (int k = 0; k < 3; k++) x.feed(k, 12);
-    for (int k = 0; k < 2; k++) x.output(k, 12);
+    ScanDiagnose x = chain(AND);
     // A line stuck at 1 shows for a pattern with a single 0, a line stuck at 0 for 127 alone.
     for (int bit = 0; bit < 7; bit++) x.observe(127 - (1 << bit), 1);
     due("candidates", x.candidates(), 13 + 2);
@@ -654,6 +661,10 @@ public final class PromisesTest {
     // State 2 is read by nothing within one cycle, though it is fed.
     ScanDiagnose y = shifter();
     due("hidden", y.hidden(), 8);
+    // Stuck at 1, the lines of the OR show for pattern 0 alone; stuck at 0, those of the AND
+    // for pattern 127 alone.
+    due("shown by the first pattern", chain(OR).hidden(), 2);
+    due("shown by the last pattern", chain(AND).hidden(), 2);
   }
 
   private static void leaders() {
@@ -675,6 +686,7 @@ public final class PromisesTest {
     due("leader", y.leader(14), 8);
     due("leader", y.leader(15), 9);
     leadersOfMaskedFaults();
+    leadersOfChains();
   }
 
   private static void leadersOfMaskedFaults() {
@@ -691,6 +703,23 @@ public final class PromisesTest {
     due("leader", x.leader(17), 17);
   }
 
+  private static void leadersOfChains() {
+    // What one pattern alone tells apart, the first or the last, is not alike.
+    ScanDiagnose or = chain(OR);
+    ScanDiagnose and = chain(AND);
+    for (int line = 0; line <= 12; line++) {
+      due("OR stuck at 1", or.leader(2 * line + 1), 1);
+      due("AND stuck at 0", and.leader(2 * line), 0);
+      due("AND stuck at 1", and.leader(2 * line + 1), 2 * line + 1);
+      // OR stuck at 0 drops what comes before: line 12 stuck at 0 drops all.
+      due("OR stuck at 0", or.leader(2 * line), 2 * line);
+    }
+    for (int fault = 26; fault < 28; fault++) {
+      due("read by nothing", or.leader(fault), 26);
+      due("read by nothing", and.leader(fault), 26);
+    }
+  }
+
   private static void groupCounts() {
     ScanDiagnose x = new ScanDiagnose();
     due("groups", x.groups(), 9);
@@ -704,6 +733,8 @@ public final class PromisesTest {
     for (int k = 0; k < 3; k++) x.feed(k, 0);
     for (int k = 0; k < 2; k++) x.output(k, 0);
     due("all on input 0", x.groups(), 3);
+    due("told apart by the first pattern", chain(OR).groups(), 13 + 1 + 1);
+    due("told apart by the last pattern", chain(AND).groups(), 13 + 1 + 1);
   }
 
   private static void candidateGroupCounts() {
