@@ -7,7 +7,7 @@ import java.util.Map;
 import java.util.Set;
 
 // The public face of the document, and those rules of LANGUAGE.md that the class file shows.
-public final class FaceTest {
+public final class FaceTest extends Checks {
   // Each method of the face with how many ints it takes.
   private static final Map<String, Integer> FACE = Map.ofEntries(
       Map.entry("gate", 3), Map.entry("feed", 2), Map.entry("output", 2), Map.entry("lines", 0),
@@ -16,14 +16,6 @@ public final class FaceTest {
       Map.entry("candidates", 0), Map.entry("candidate", 1), Map.entry("healthy", 0),
       Map.entry("nextPattern", 0), Map.entry("detected", 2), Map.entry("hidden", 0),
       Map.entry("leader", 1), Map.entry("groups", 0), Map.entry("candidateGroups", 0));
-  private static int wrong = 0;
-
-  private static void must(boolean holds, String what) {
-    if (!holds) {
-      wrong++;
-      System.out.println("does not hold: " + what);
-    }
-  }
 
   private static boolean isNumber(Class<?> type) {
     return type.isPrimitive() && type != float.class && type != double.class;
@@ -71,6 +63,7 @@ public final class FaceTest {
   }
 
   public static void main(String[] args) {
+    says("the public face");
     Class<?> program = ScanDiagnose.class;
     must(program.getModifiers() == (Modifier.PUBLIC | Modifier.FINAL), "the class is public and final");
     must(program.getSuperclass() == Object.class, "the class extends nothing");
@@ -82,7 +75,6 @@ public final class FaceTest {
     must(Modifier.isPublic(constructors[0].getModifiers()), "the constructor is public");
     checkMethods(program);
     checkFields(program);
-    System.out.println(wrong == 0 ? "the face is as due" : wrong + " things do not hold");
-    if (wrong != 0) System.exit(1);
+    end();
   }
 }

@@ -4,10 +4,9 @@ import java.util.List;
 import java.util.TreeSet;
 
 // Long mixed runs of calls, each answer held against a slow model written from the terms.
-public final class ModelTest {
+public final class ModelTest extends Checks {
   private static final int RUNS = 60;
   private static final int CALLS = 512;
-  private static int wrong = 0;
   private static long seed = 20261115L;
 
   /** A fixed sequence of numbers 0 .. bound - 1, the same in every run of this test. */
@@ -21,7 +20,7 @@ public final class ModelTest {
     int n = pick(24);
     if (n == 0) return -1;
     if (n == 1) return bound;
-    if (n == 2) return pick(2) == 0 ? Integer.MIN_VALUE : Integer.MAX_VALUE;
+    if (n == 2) return pick(2) == 0 ? LOW : HIGH;
     return pick(bound);
   }
 
@@ -203,13 +202,6 @@ public final class ModelTest {
     }
   }
 
-  private static void due(String call, int got, int want) {
-    if (got != want) {
-      wrong++;
-      System.out.println(call + " answered " + got + ", due is " + want);
-    }
-  }
-
   private static void build(ScanDiagnose x, Model m) {
     int n = pick(6);
     if (n <= 2) {
@@ -268,8 +260,10 @@ public final class ModelTest {
   }
 
   public static void main(String[] args) {
-    for (int i = 0; i < RUNS; i++) run();
-    System.out.println(wrong == 0 ? "all answers are as due" : wrong + " answers are not as due");
-    if (wrong != 0) System.exit(1);
+    for (int i = 0; i < RUNS; i++) {
+      says("run " + i);
+      run();
+    }
+    end();
   }
 }

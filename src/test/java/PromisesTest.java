@@ -1,70 +1,31 @@
-// Each promise of the document, with answers worked out by hand.
-public final class PromisesTest {
-  private static final int AND = 0, OR = 1, XOR = 2, NAND = 3, NOR = 4, NOT = 5;
-  private static final int LOW = Integer.MIN_VALUE, HIGH = Integer.MAX_VALUE;
-  private static int wrong = 0;
-  private static int promise = 0;
-
-  private static void due(String call, int got, int want) {
-    if (got != want) {
-      wrong++;
-      System.out.println("promise " + promise + ": " + call + " answered " + got + ", due is " + want);
-    }
-  }
+// Each promise of the document on ordinary inputs, with answers worked out by hand; the edges
+// have tests of their own in TermsEdgesTest and PromiseEdgesTest.
+public final class PromisesTest extends Checks {
+  private static final int AND = Circuits.AND, OR = Circuits.OR, XOR = Circuits.XOR;
+  private static final int NAND = Circuits.NAND, NOR = Circuits.NOR, NOT = Circuits.NOT;
 
   public static void main(String[] args) {
-    promise = 1; aNewObject();
-    promise = 2; gateKinds(); gateRefusals(); gateDropsObservations(); gatesFull();
-    promise = 3; feedAnswersAndWorks(); feedsAtOnce(); feedRefusals(); feedDropsObservations();
-    promise = 4; outputAnswersAndWorks(); outputRefusals(); outputDropsObservations();
-    promise = 5; lineCounts();
-    promise = 6; injectAnswers(); injectDropsObservations(); faultStays();
-    promise = 7; observeAnswers(); observeRefusals(); observeFull();
-    promise = 8; forgetAnswers();
-    promise = 9; observationCounts();
-    promise = 10; responses(); responseRefusals(); responseIgnoresTheDevice();
-    promise = 11; stuckInputs(); stuckStates(); stuckGates(); responseWithRefusals();
-    promise = 12; candidateCounts(); noCandidates();
-    promise = 13; candidateOrder();
-    promise = 14; healthyAnswers();
-    promise = 15; nextPatterns();
-    promise = 16; detectedCounts(); detectedRefusals();
-    promise = 17; hiddenCounts();
-    promise = 18; leaders();
-    promise = 19; groupCounts();
-    promise = 20; candidateGroupCounts();
-    promise = 0; questionsChangeNothing();
-    System.out.println(wrong == 0 ? "all answers are as due" : wrong + " answers are not as due");
-    if (wrong != 0) System.exit(1);
-  }
-
-  /** A toggle: state 0 gets its own inverse, line 7, which is output 1 too. */
-  private static ScanDiagnose toggle() {
-    ScanDiagnose x = new ScanDiagnose();
-    x.gate(NOT, 4, 0);
-    x.feed(0, 7);
-    x.output(1, 7);
-    return x;
-  }
-
-  /** A shift register: input 0 goes to state 0, state 0 to state 1, state 1 to state 2. */
-  private static ScanDiagnose shifter() {
-    ScanDiagnose x = new ScanDiagnose();
-    x.feed(0, 0);
-    x.feed(1, 4);
-    x.feed(2, 5);
-    return x;
-  }
-
-  /** Line 12 joins all inputs and states, and alone is seen; line 13 is read by nothing. */
-  private static ScanDiagnose chain(int kind) {
-    ScanDiagnose x = new ScanDiagnose();
-    x.gate(kind, 0, 1);
-    for (int line = 2; line <= 6; line++) x.gate(kind, line, line + 5);
-    x.gate(kind, 0, 0);
-    for (int k = 0; k < 3; k++) x.feed(k, 12);
-    for (int k = 0; k < 2; k++) x.output(k, 12);
-    return x;
+    says("promise 1"); aNewObject();
+    says("promise 2"); gatesOfGates();
+    says("promise 3"); feedAnswersAndWorks();
+    says("promise 4"); outputAnswersAndWorks();
+    says("promise 5"); lineCounts();
+    says("promise 6"); injectAnswers(); faultStays();
+    says("promise 7"); observeAnswers();
+    says("promise 8"); forgetAnswers();
+    says("promise 9"); observationCounts();
+    says("promise 10"); responses(); responseIgnoresTheDevice();
+    says("promise 11"); stuckInputs(); stuckStates(); stuckGates();
+    says("promise 12"); candidateCounts(); noCandidates();
+    says("promise 13"); candidateOrder();
+    says("promise 14"); healthyAnswers();
+    says("promise 15"); nextPatterns();
+    says("promise 16"); detectedCounts();
+    says("promise 17"); hiddenCounts();
+    says("promise 18"); leaders();
+    says("promise 19"); groupCounts();
+    says("promise 20"); candidateGroupCounts();
+    end();
   }
 
   private static void aNewObject() {
@@ -74,8 +35,8 @@ public final class PromisesTest {
     due("healthy", x.healthy(), 1);
     due("candidates", x.candidates(), 14);
     for (int p = 0; p < 128; p++) {
-      due("response " + p, x.response(p, 1), (p >> 4) + 24 * (p & 1));
-      due("response " + p, x.response(p, 4), (p >> 4) + 24 * (p & 1));
+      due("response " + p, x.response(p, 1), Circuits.ofNew(p));
+      due("response " + p, x.response(p, 4), Circuits.ofNew(p));
     }
     for (int p = 0; p < 20; p++) {
       due("observe " + p, x.observe(p * 6 + 5, 1), x.response(p * 6 + 5, 1));
@@ -86,20 +47,7 @@ public final class PromisesTest {
     due("gate", x.gate(AND, 0, 0), 7);
   }
 
-  private static void gateKinds() {
-    // Bit a + 2 * b of a table is the gate's value.
-    int[] table = {0b1000, 0b1110, 0b0110, 0b0111, 0b0001, 0b0101};
-    for (int kind = AND; kind <= NOT; kind++) {
-      ScanDiagnose x = new ScanDiagnose();
-      due("gate " + kind, x.gate(kind, 0, 1), 7);
-      x.output(0, 7);
-      x.output(1, 1);
-      x.feed(2, 7);
-      for (int p = 0; p < 4; p++) {
-        int value = table[kind] >> p & 1;
-        due("kind " + kind + " of " + p, x.response(p, 1), value * 4 + value * 8 + (p >> 1) * 16);
-      }
-    }
+  private static void gatesOfGates() {
     ScanDiagnose x = new ScanDiagnose();
     due("one line twice", x.gate(XOR, 3, 3), 7);
     due("inputs and states", x.gate(OR, 6, 3), 8);
@@ -109,63 +57,6 @@ public final class PromisesTest {
     due("response", x.response(0b0000000, 1), 16);
     due("response", x.response(0b0001000, 1), 8 + 16);
     due("response", x.response(0b1000000, 1), 4 + 8 + 16);
-  }
-
-  private static void gateRefusals() {
-    ScanDiagnose x = new ScanDiagnose();
-    x.observe(1, 1);
-    int[] badKinds = {-1, 6, LOW, HIGH};
-    for (int kind : badKinds) {
-      due("gate kind " + kind, x.gate(kind, 0, 0), -1);
-      due("kind before lines " + kind, x.gate(kind, 7, -1), -1);
-    }
-    int[] badLines = {-1, 7, 21, LOW, HIGH};
-    for (int line : badLines) {
-      for (int kind = AND; kind <= NOT; kind++) due("gate a " + line, x.gate(kind, line, 0), -2);
-      for (int kind = AND; kind < NOT; kind++) due("gate b " + line, x.gate(kind, 0, line), -2);
-    }
-    due("lines", x.lines(), 7);
-    due("observations", x.observations(), 1);
-    due("candidates", x.candidates(), 10);
-    for (int line : badLines) {
-      int made = x.lines();
-      due("NOT with b " + line, x.gate(NOT, 0, line), made);
-      x.output(0, made);
-      due("NOT of 0", x.response(0, 1), 8);
-      due("NOT of 1", x.response(1, 1), 16);
-    }
-  }
-
-  private static void gateDropsObservations() {
-    ScanDiagnose x = new ScanDiagnose();
-    x.inject(1);
-    x.observe(0, 1);
-    due("healthy", x.healthy(), 0);
-    due("gate", x.gate(AND, 0, 0), 7);
-    due("observations", x.observations(), 0);
-    due("candidates", x.candidates(), 16);
-    due("healthy", x.healthy(), 1);
-    due("the fault stays", x.observe(0, 1), 24);
-  }
-
-  private static void gatesFull() {
-    ScanDiagnose x = new ScanDiagnose();
-    // A chain of inverters: line 7 + i is input 0 turned over i + 1 times.
-    for (int i = 0; i < 14; i++) due("gate " + i, x.gate(NOT, i == 0 ? 0 : 6 + i, -1), 7 + i);
-    x.output(0, 20);
-    x.output(1, 19);
-    x.observe(1, 1);
-    for (int kind = AND; kind <= NOT; kind++) due("gate 15", x.gate(kind, 20, 20), -3);
-    due("kind before room", x.gate(6, 0, 0), -1);
-    due("a before room", x.gate(AND, 21, 0), -2);
-    due("b before room", x.gate(AND, 0, 21), -2);
-    due("a of NOT before room", x.gate(NOT, 21, 0), -2);
-    due("lines", x.lines(), 21);
-    due("observations", x.observations(), 1);
-    due("response", x.response(1, 1), 8);
-    due("response", x.response(0, 1), 16);
-    due("last line stuck", x.responseWith(41, 0, 1), 24);
-    due("no fault 42", x.responseWith(42, 0, 1), -1);
   }
 
   private static void feedAnswersAndWorks() {
@@ -183,45 +74,6 @@ public final class PromisesTest {
     due("response", x.response(0, 1), 1);
   }
 
-  private static void feedsAtOnce() {
-    ScanDiagnose x = new ScanDiagnose();
-    x.feed(0, 5);
-    x.feed(1, 6);
-    x.feed(2, 4);
-    due("turned once", x.response(0b0010000, 1), 4);
-    due("turned twice", x.response(0b0010000, 2), 2);
-    due("turned thrice", x.response(0b0010000, 3), 1);
-    due("turned four times", x.response(0b0010000, 4), 4);
-    due("turned once", x.response(0b1010000, 1), 6);
-  }
-
-  private static void feedRefusals() {
-    ScanDiagnose x = new ScanDiagnose();
-    x.observe(1, 1);
-    int[] badStates = {-1, 3, LOW, HIGH};
-    int[] badLines = {-1, 7, LOW, HIGH};
-    for (int k : badStates) {
-      due("feed of state " + k, x.feed(k, 0), -1);
-      due("state before line " + k, x.feed(k, 7), -1);
-    }
-    for (int line : badLines) {
-      for (int k = 0; k < 3; k++) due("feed from line " + line, x.feed(k, line), -2);
-    }
-    due("observations", x.observations(), 1);
-    for (int k = 0; k < 3; k++) due("feed before", x.feed(k, 0), 4 + k);
-  }
-
-  private static void feedDropsObservations() {
-    ScanDiagnose x = new ScanDiagnose();
-    x.inject(1);
-    x.observe(0, 1);
-    due("same feed", x.feed(1, 5), 5);
-    due("observations", x.observations(), 0);
-    due("candidates", x.candidates(), 14);
-    due("healthy", x.healthy(), 1);
-    due("the fault stays", x.observe(0, 1), 24);
-  }
-
   private static void outputAnswersAndWorks() {
     ScanDiagnose x = new ScanDiagnose();
     due("output 0", x.output(0, 3), 0);
@@ -235,33 +87,6 @@ public final class PromisesTest {
     due("gate", x.gate(NOR, 0, 0), 7);
     due("output a gate", x.output(1, 7), 1);
     due("response", x.response(0, 1), 16);
-  }
-
-  private static void outputRefusals() {
-    ScanDiagnose x = new ScanDiagnose();
-    x.observe(1, 1);
-    int[] badOutputs = {-1, 2, LOW, HIGH};
-    int[] badLines = {-1, 7, LOW, HIGH};
-    for (int k : badOutputs) {
-      due("output " + k, x.output(k, 1), -1);
-      due("output before line " + k, x.output(k, 7), -1);
-    }
-    for (int line : badLines) {
-      for (int k = 0; k < 2; k++) due("output from line " + line, x.output(k, line), -2);
-    }
-    due("observations", x.observations(), 1);
-    for (int k = 0; k < 2; k++) due("output before", x.output(k, 1), 0);
-  }
-
-  private static void outputDropsObservations() {
-    ScanDiagnose x = new ScanDiagnose();
-    x.inject(1);
-    x.observe(0, 1);
-    due("same output", x.output(1, 0), 0);
-    due("observations", x.observations(), 0);
-    due("candidates", x.candidates(), 14);
-    due("healthy", x.healthy(), 1);
-    due("the fault stays", x.observe(0, 1), 24);
   }
 
   private static void lineCounts() {
@@ -294,22 +119,6 @@ public final class PromisesTest {
     due("observe", x.observe(0, 1), 8);
   }
 
-  private static void injectDropsObservations() {
-    ScanDiagnose x = new ScanDiagnose();
-    int[] faults = {-1, -1, 5, 5, -1};
-    for (int fault : faults) {
-      x.observe(0, 1);
-      due("inject " + fault, x.inject(fault), 0);
-      due("observations", x.observations(), 0);
-      due("candidates", x.candidates(), 14);
-    }
-    x.inject(1);
-    x.observe(0, 1);
-    due("healthy", x.healthy(), 0);
-    x.inject(1);
-    due("healthy", x.healthy(), 1);
-  }
-
   private static void faultStays() {
     ScanDiagnose x = new ScanDiagnose();
     x.inject(3);
@@ -322,7 +131,7 @@ public final class PromisesTest {
   }
 
   private static void observeAnswers() {
-    ScanDiagnose x = toggle();
+    ScanDiagnose x = Circuits.toggle();
     due("observe", x.observe(0, 1), 1 + 16);
     due("observe", x.observe(0, 2), 0);
     due("observe", x.observe(17, 3), 8);
@@ -332,35 +141,6 @@ public final class PromisesTest {
     due("observe", x.observe(0, 1), 1 + 16);
     due("observe", x.observe(0, 2), 1 + 16);
     due("response", x.response(0, 2), 0);
-  }
-
-  private static void observeRefusals() {
-    ScanDiagnose x = new ScanDiagnose();
-    int[] badPatterns = {-1, 128, LOW, HIGH};
-    int[] badCycles = {-1, 0, 5, LOW, HIGH};
-    for (int p : badPatterns) {
-      due("observe " + p, x.observe(p, 1), -1);
-      due("pattern before cycles " + p, x.observe(p, 0), -1);
-    }
-    for (int c : badCycles) due("observe cycles " + c, x.observe(0, c), -2);
-    due("observations", x.observations(), 0);
-    due("candidates", x.candidates(), 14);
-  }
-
-  private static void observeFull() {
-    ScanDiagnose x = new ScanDiagnose();
-    for (int i = 1; i <= 20; i++) {
-      due("observe " + i, x.observe(0, 1), 0);
-      due("observations", x.observations(), i);
-    }
-    due("candidates", x.candidates(), 10);
-    due("observe 21", x.observe(127, 1), -3);
-    due("pattern before room", x.observe(128, 1), -1);
-    due("cycles before room", x.observe(0, 5), -2);
-    due("observations", x.observations(), 20);
-    due("candidates", x.candidates(), 10);
-    due("forget", x.forget(), 20);
-    due("observe after forget", x.observe(127, 1), 31);
   }
 
   private static void forgetAnswers() {
@@ -392,29 +172,18 @@ public final class PromisesTest {
   }
 
   private static void responses() {
-    ScanDiagnose x = toggle();
+    ScanDiagnose x = Circuits.toggle();
     due("response", x.response(0, 1), 1 + 16);
     due("response", x.response(0, 2), 0);
     due("response", x.response(0, 3), 1 + 16);
     due("response", x.response(0, 4), 0);
     due("response", x.response(127, 1), 6 + 8);
     due("response", x.response(127, 2), 7 + 8 + 16);
-    ScanDiagnose y = shifter();
+    ScanDiagnose y = Circuits.shifter();
     for (int c = 1; c <= 4; c++) {
       due("shift in 1s", y.response(1, c), (c < 3 ? (1 << c) - 1 : 7) + 24);
       due("shift in 0s", y.response(0b1110000, c), (7 << c) & 7);
     }
-  }
-
-  private static void responseRefusals() {
-    ScanDiagnose x = new ScanDiagnose();
-    int[] badPatterns = {-1, 128, LOW, HIGH};
-    int[] badCycles = {-1, 0, 5, LOW, HIGH};
-    for (int p : badPatterns) {
-      due("response " + p, x.response(p, 1), -1);
-      due("pattern before cycles " + p, x.response(p, 5), -1);
-    }
-    for (int c : badCycles) due("response cycles " + c, x.response(0, c), -2);
   }
 
   private static void responseIgnoresTheDevice() {
@@ -426,7 +195,7 @@ public final class PromisesTest {
   }
 
   private static void stuckInputs() {
-    ScanDiagnose x = shifter();
+    ScanDiagnose x = Circuits.shifter();
     due("input stuck at 1", x.responseWith(1, 0, 2), 3 + 24);
     due("input stuck at 0", x.responseWith(0, 127, 2), 4);
     due("input not read", x.responseWith(2, 127, 2), 7 + 24);
@@ -435,7 +204,7 @@ public final class PromisesTest {
   }
 
   private static void stuckStates() {
-    ScanDiagnose x = shifter();
+    ScanDiagnose x = Circuits.shifter();
     // The line of state 0 sticks, but the state itself still gets what its feed brings.
     due("state 0 stuck at 0", x.responseWith(8, 1, 1), 1 + 24);
     due("state 0 stuck at 0", x.responseWith(8, 1, 4), 1 + 24);
@@ -448,7 +217,7 @@ public final class PromisesTest {
   }
 
   private static void stuckGates() {
-    ScanDiagnose x = toggle();
+    ScanDiagnose x = Circuits.toggle();
     due("gate stuck at 0", x.responseWith(14, 0, 1), 0);
     due("gate stuck at 0", x.responseWith(14, 0, 4), 0);
     due("gate stuck at 1", x.responseWith(15, 0, 2), 1 + 16);
@@ -458,22 +227,6 @@ public final class PromisesTest {
     x.output(0, 8);
     due("stuck gate seen by a gate", x.responseWith(14, 0, 1), 8);
     due("stuck gate seen by a gate", x.responseWith(15, 16, 1), 1 + 16);
-  }
-
-  private static void responseWithRefusals() {
-    ScanDiagnose x = new ScanDiagnose();
-    int[] badFaults = {-1, 14, LOW, HIGH};
-    int[] badPatterns = {-1, 128, LOW, HIGH};
-    int[] badCycles = {-1, 0, 5, LOW, HIGH};
-    for (int f : badFaults) {
-      due("responseWith fault " + f, x.responseWith(f, 0, 1), -1);
-      due("fault before pattern " + f, x.responseWith(f, 128, 0), -1);
-    }
-    for (int p : badPatterns) {
-      due("responseWith pattern " + p, x.responseWith(0, p, 1), -2);
-      due("pattern before cycles " + p, x.responseWith(0, p, 0), -2);
-    }
-    for (int c : badCycles) due("responseWith cycles " + c, x.responseWith(0, 0, c), -3);
   }
 
   private static void candidateCounts() {
@@ -492,7 +245,7 @@ public final class PromisesTest {
     due("candidates", x.candidates(), 1);
     x.gate(AND, 0, 0);
     due("candidates", x.candidates(), 16);
-    ScanDiagnose y = shifter();
+    ScanDiagnose y = Circuits.shifter();
     // A stuck state 0 is seen by the second cycle at the earliest, in state 1.
     y.inject(9);
     y.observe(0b0010000, 1);
@@ -553,7 +306,7 @@ public final class PromisesTest {
     due("still noted", x.healthy(), 0);
     x.forget();
     due("forgotten", x.healthy(), 1);
-    ScanDiagnose y = shifter();
+    ScanDiagnose y = Circuits.shifter();
     y.inject(9);
     y.observe(0b0010001, 1);
     due("one cycle hides it", y.healthy(), 1);
@@ -586,7 +339,7 @@ public final class PromisesTest {
   }
 
   private static void lastNextPattern() {
-    ScanDiagnose x = chain(AND);
+    ScanDiagnose x = Circuits.chain(AND);
     // A line stuck at 1 shows for a pattern with a single 0, a line stuck at 0 for 127 alone.
     for (int bit = 0; bit < 7; bit++) x.observe(127 - (1 << bit), 1);
     due("candidates", x.candidates(), 13 + 2);
@@ -602,7 +355,7 @@ public final class PromisesTest {
   }
 
   private static void nextPatternIsOneCycle() {
-    ScanDiagnose x = shifter();
+    ScanDiagnose x = Circuits.shifter();
     x.observe(0, 1);
     x.observe(1, 1);
     // State 0 stuck at 0 would show for pattern 1 in a second cycle.
@@ -617,7 +370,7 @@ public final class PromisesTest {
     for (int p = 0; p < 128; p++) due("detected " + p, x.detected(p, 1), 4);
     x.inject(1);
     due("not against the device", x.detected(0, 1), 4);
-    ScanDiagnose y = shifter();
+    ScanDiagnose y = Circuits.shifter();
     due("detected", y.detected(0, 1), 3);
     due("detected", y.detected(0, 4), 3);
     due("detected", y.detected(0b0010000, 1), 3);
@@ -625,22 +378,11 @@ public final class PromisesTest {
     due("detected", y.detected(0b0010000, 2), 4);
     y.feed(2, 0);
     due("detected", y.detected(0, 1), 2);
-    ScanDiagnose z = toggle();
+    ScanDiagnose z = Circuits.toggle();
     // Input 0, the states 1 and 2, state 0 and its inverse.
     due("detected", z.detected(0, 1), 5);
     // The inverse should end at 0: it does with state 0 stuck at 1, not with it stuck at 0.
     due("detected", z.detected(0, 2), 5);
-  }
-
-  private static void detectedRefusals() {
-    ScanDiagnose x = new ScanDiagnose();
-    int[] badPatterns = {-1, 128, LOW, HIGH};
-    int[] badCycles = {-1, 0, 5, LOW, HIGH};
-    for (int p : badPatterns) {
-      due("detected " + p, x.detected(p, 1), -1);
-      due("pattern before cycles " + p, x.detected(p, 0), -1);
-    }
-    for (int c : badCycles) due("detected cycles " + c, x.detected(0, c), -2);
   }
 
   private static void hiddenCounts() {
@@ -659,12 +401,12 @@ public final class PromisesTest {
     // Line 8 is always 0: stuck at 0 is hidden; so are the faults of input 3, and of input 0.
     due("a gate that is always 0", x.hidden(), 5);
     // State 2 is read by nothing within one cycle, though it is fed.
-    ScanDiagnose y = shifter();
+    ScanDiagnose y = Circuits.shifter();
     due("hidden", y.hidden(), 8);
     // Stuck at 1, the lines of the OR show for pattern 0 alone; stuck at 0, those of the AND
     // for pattern 127 alone.
-    due("shown by the first pattern", chain(OR).hidden(), 2);
-    due("shown by the last pattern", chain(AND).hidden(), 2);
+    due("shown by the first pattern", Circuits.chain(OR).hidden(), 2);
+    due("shown by the last pattern", Circuits.chain(AND).hidden(), 2);
   }
 
   private static void leaders() {
@@ -680,7 +422,7 @@ public final class PromisesTest {
     for (int f = 0; f < 16; f++) due("leader " + f, x.leader(f), inverse[f]);
     due("groups", x.groups(), 11);
     // State 0 is read by line 7 alone, which has its value.
-    ScanDiagnose y = shifter();
+    ScanDiagnose y = Circuits.shifter();
     y.gate(OR, 4, 4);
     y.feed(1, 7);
     due("leader", y.leader(14), 8);
@@ -705,8 +447,8 @@ public final class PromisesTest {
 
   private static void leadersOfChains() {
     // What one pattern alone tells apart, the first or the last, is not alike.
-    ScanDiagnose or = chain(OR);
-    ScanDiagnose and = chain(AND);
+    ScanDiagnose or = Circuits.chain(OR);
+    ScanDiagnose and = Circuits.chain(AND);
     for (int line = 0; line <= 12; line++) {
       due("OR stuck at 1", or.leader(2 * line + 1), 1);
       due("AND stuck at 0", and.leader(2 * line), 0);
@@ -733,8 +475,8 @@ public final class PromisesTest {
     for (int k = 0; k < 3; k++) x.feed(k, 0);
     for (int k = 0; k < 2; k++) x.output(k, 0);
     due("all on input 0", x.groups(), 3);
-    due("told apart by the first pattern", chain(OR).groups(), 13 + 1 + 1);
-    due("told apart by the last pattern", chain(AND).groups(), 13 + 1 + 1);
+    due("told apart by the first pattern", Circuits.chain(OR).groups(), 13 + 1 + 1);
+    due("told apart by the last pattern", Circuits.chain(AND).groups(), 13 + 1 + 1);
   }
 
   private static void candidateGroupCounts() {
@@ -773,22 +515,4 @@ public final class PromisesTest {
     due("candidateGroups", x.candidateGroups(), 10 - 4);
   }
 
-  private static void questionsChangeNothing() {
-    ScanDiagnose x = toggle();
-    x.inject(14);
-    x.observe(0, 2);
-    x.observe(16, 1);
-    int[] first = answers(x);
-    int[] second = answers(x);
-    for (int i = 0; i < first.length; i++) due("question " + i + " again", second[i], first[i]);
-    due("observe", x.observe(0, 1), 0);
-  }
-
-  private static int[] answers(ScanDiagnose x) {
-    return new int[] {
-      x.lines(), x.observations(), x.response(5, 2), x.responseWith(3, 5, 2), x.candidates(),
-      x.candidate(0), x.candidate(1), x.healthy(), x.nextPattern(), x.detected(9, 3), x.hidden(),
-      x.leader(5), x.groups(), x.candidateGroups()
-    };
-  }
 }
