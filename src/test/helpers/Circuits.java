@@ -109,4 +109,15 @@ final class Circuits {
     x.observe(127, 4);
     return x;
   }
+
+  /** No room for observations, but for gates: the fault is found, and no next pattern is left. */
+  static ScanDiagnose found() {
+    ScanDiagnose x = new ScanDiagnose();
+    x.gate(AND, 0, 1);
+    x.feed(0, 7);
+    x.output(0, 2);
+    x.inject(1);
+    for (int i = 0; i < 20; i++) x.observe(2 * (i % 2), 1);
+    return x;
+  }
 }

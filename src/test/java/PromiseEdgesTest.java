@@ -13,7 +13,7 @@ public final class PromiseEdgesTest extends Checks {
     observePattern(); observeCycles(); observeRoom(); observeAnswer();
     forgetAnswer();
     observationCount();
-    responsePattern(); responseCycles();
+    responsePattern(); responseCycles(); responseSound();
     responseWithFault(); responseWithPattern(); responseWithCycles();
     candidateCount();
     candidateNumber();
@@ -325,6 +325,16 @@ public final class PromiseEdgesTest extends Checks {
     due("response for 4", x.response(0, 4), 6);
   }
 
+  private static void responseSound() {
+    says("10: The response of the circuit without a fault.");
+    ScanDiagnose x = Circuits.ring();
+    x.inject(15);
+    int[] sound = {1, 3, 7, 6};
+    for (int c = 1; c <= 4; c++) due("response for " + c, x.response(0, c), sound[c - 1]);
+    due("observe for 4", x.observe(0, 4), 7);
+    due("response for 4", x.response(0, 4), 6);
+  }
+
   private static void responseWithFault() {
     says("11: -1 if fault is not good");
     ScanDiagnose x = new ScanDiagnose();
@@ -447,6 +457,15 @@ public final class PromiseEdgesTest extends Checks {
     ScanDiagnose y = new ScanDiagnose();
     y.observe(0, 1);
     due("the least of many", y.nextPattern(), 1);
+    ScanDiagnose w = new ScanDiagnose();
+    // Left are input 0 stuck at 1, the unread inputs, and line 7 stuck at 0, which for pattern 0
+    // give 8, 16 and 0: none of the first two is 0.
+    w.output(1, w.gate(NOT, 0, 0));
+    w.inject(3);
+    w.observe(113, 1);
+    w.observe(1, 1);
+    due("candidates", w.candidates(), 6 + 2);
+    due("0 is given by the last candidate alone", w.nextPattern(), 0);
     ScanDiagnose z = constant();
     // The first 41 candidates give the same; the last fault alone differs, for all patterns.
     Circuits.showAlone(z, 20);

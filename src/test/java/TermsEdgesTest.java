@@ -1,5 +1,7 @@
 import java.util.ArrayList;
+import java.util.Collections;
 import java.util.List;
+import java.util.function.IntConsumer;
 import java.util.function.Supplier;
 import java.util.function.ToIntFunction;
 
@@ -363,25 +365,13 @@ public final class TermsEdgesTest extends Checks {
   /** The calls of gate, feed, output and inject that are accepted by a new object. */
   private static List<ToIntFunction<ScanDiagnose>> acceptedCalls() {
     List<ToIntFunction<ScanDiagnose>> calls = new ArrayList<>();
-    for (int kind = 0; kind <= 5; kind++) {
-      int of = kind;
-      calls.add(x -> x.gate(of, 0, 0));
-    }
+    each(0, 5, n -> calls.add(x -> x.gate(n, 0, 0)));
     calls.add(x -> x.gate(NOT, 0, -1));
-    for (int each = 0; each < 3; each++) {
-      int k = each;
-      calls.add(x -> x.feed(k, 4 + k));
-      calls.add(x -> x.feed(k, 0));
-    }
-    for (int each = 0; each < 2; each++) {
-      int k = each;
-      calls.add(x -> x.output(k, 0));
-      calls.add(x -> x.output(k, 6));
-    }
-    for (int each : new int[] {-1, 0, 1, 13}) {
-      int fault = each;
-      calls.add(x -> x.inject(fault));
-    }
+    each(0, 2, n -> calls.add(x -> x.feed(n, 4 + n)));
+    each(0, 2, n -> calls.add(x -> x.feed(n, 0)));
+    each(0, 1, n -> calls.add(x -> x.output(n, 0)));
+    each(0, 1, n -> calls.add(x -> x.output(n, 6)));
+    each(-1, 13, n -> calls.add(x -> x.inject(n)));
     return calls;
   }
 
@@ -535,41 +525,63 @@ public final class TermsEdgesTest extends Checks {
     due("nextPattern", x.nextPattern(), -1);
   }
 
-  /** All that an object answers, the device last: the calls for it change the object. */
-  private static List<Integer> allAnswers(ScanDiagnose x) {
-    List<Integer> all = new ArrayList<>();
-    int faults = 2 * x.lines();
-    all.add(x.lines());
-    all.add(x.observations());
-    all.add(x.candidates());
-    all.add(x.healthy());
-    all.add(x.nextPattern());
-    all.add(x.hidden());
-    all.add(x.groups());
-    all.add(x.candidateGroups());
-    for (int i = 0; i <= faults; i++) all.add(x.candidate(i));
-    for (int p = 0; p < 128; p++) all.add(x.response(p, 1 + p % 4));
-    for (int f = 0; f < faults; f++) all.add(x.responseWith(f, 3 * f, 1 + f % 4));
-    for (int c = 1; c <= 4; c++) all.add(x.detected(31 * c, c));
-    for (int f = 0; f < faults; f++) all.add(x.leader(f));
-    all.add(x.observe(0, 1));
-    all.add(x.forget());
-    for (int i = 0; i < 20; i++) all.add(x.observe(6 * i + 1, 1 + i % 4));
-    for (int k = 0; k < 3; k++) all.add(x.feed(k, 0));
-    for (int k = 0; k < 2; k++) all.add(x.output(k, 1));
-    all.add(x.gate(NOT, 0, 0));
-    return all;
+  /** Every question, for an object of so many faults. */
+  private static List<ToIntFunction<ScanDiagnose>> questions(int faults) {
+    List<ToIntFunction<ScanDiagnose>> calls = new ArrayList<>();
+    calls.add(ScanDiagnose::lines);
+    calls.add(ScanDiagnose::observations);
+    calls.add(ScanDiagnose::candidates);
+    calls.add(ScanDiagnose::healthy);
+    calls.add(ScanDiagnose::nextPattern);
+    calls.add(ScanDiagnose::hidden);
+    calls.add(ScanDiagnose::groups);
+    calls.add(ScanDiagnose::candidateGroups);
+    each(0, 127, n -> calls.add(x -> x.response(n, 1 + n % 4)));
+    each(1, 4, n -> calls.add(x -> x.detected(31 * n, n)));
+    each(0, faults, n -> calls.add(x -> x.candidate(n)));
+    each(0, faults, n -> calls.add(x -> x.responseWith(n, 3 * n, 1 + n % 4)));
+    each(0, faults, n -> calls.add(x -> x.leader(n)));
+    return calls;
   }
 
-  /** A call with the answer that is due to it, held against an object that had no such call. */
+  /** Calls that are no questions, and yet tell the notes, the device, and what is set. */
+  private static List<ToIntFunction<ScanDiagnose>> tellingCalls() {
+    List<ToIntFunction<ScanDiagnose>> calls = new ArrayList<>();
+    calls.add(ScanDiagnose::forget);
+    each(1, 20, n -> calls.add(x -> x.observe(6 * n, 1 + n % 4)));
+    each(0, 2, n -> calls.add(x -> x.feed(n, 0)));
+    each(0, 1, n -> calls.add(x -> x.output(n, 1)));
+    calls.add(x -> x.gate(NOT, 0, 0));
+    return calls;
+  }
+
+  private static void each(int first, int last, IntConsumer task) {
+    for (int n = first; n <= last; n++) task.accept(n);
+  }
+
+  /**
+   * A call with the answer that is due to it; then the object is held against one that had no
+   * such call. The questions are asked in both orders: if the call is one of them, those that
+   * are asked before it tell the two objects apart, those after it do not.
+   */
   private static void changesNothing(
       String name, Supplier<ScanDiagnose> maker, ToIntFunction<ScanDiagnose> call, int want) {
+    List<ToIntFunction<ScanDiagnose>> asked = questions(2 * maker.get().lines());
+    sameAnswers(name, maker, call, want, asked);
+    Collections.reverse(asked);
+    sameAnswers(name, maker, call, want, asked);
+    sameAnswers(name, maker, call, want, tellingCalls());
+  }
+
+  private static void sameAnswers(
+      String name, Supplier<ScanDiagnose> maker, ToIntFunction<ScanDiagnose> call, int want,
+      List<ToIntFunction<ScanDiagnose>> asked) {
     ScanDiagnose x = maker.get();
+    ScanDiagnose without = maker.get();
     due(name, call.applyAsInt(x), want);
-    List<Integer> got = allAnswers(x);
-    List<Integer> without = allAnswers(maker.get());
-    for (int i = 0; i < without.size(); i++) {
-      due("answer " + i + " after " + name, got.get(i), without.get(i));
+    for (int i = 0; i < asked.size(); i++) {
+      int expected = asked.get(i).applyAsInt(without);
+      due("answer " + i + " of " + asked.size() + " after " + name, asked.get(i).applyAsInt(x), expected);
     }
   }
 
@@ -584,7 +596,7 @@ public final class TermsEdgesTest extends Checks {
   }
 
   private static List<Supplier<ScanDiagnose>> makers() {
-    return List.of(ScanDiagnose::new, Circuits::half, Circuits::full);
+    return List.of(ScanDiagnose::new, Circuits::half, Circuits::found, Circuits::full);
   }
 
   private static void noQuestionChanges() {
@@ -616,7 +628,7 @@ public final class TermsEdgesTest extends Checks {
     changesNothing("gate 15", Circuits::full, x -> x.gate(AND, 0, 0), -3);
     changesNothing("gate 15", Circuits::full, x -> x.gate(NOT, 20, 21), -3);
     changesNothing("observe 21", Circuits::full, x -> x.observe(0, 1), -3);
-    changesNothing("observe 21", Circuits::full, x -> x.observe(127, 4), -3);
+    changesNothing("observe 21", Circuits::found, x -> x.observe(127, 4), -3);
   }
 
   private static void refusedSettings(Supplier<ScanDiagnose> maker, int lines) {
