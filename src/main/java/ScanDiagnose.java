@@ -14,6 +14,7 @@ public final class ScanDiagnose {
     private static final int MAX_LINES = FIRST_GATE + 14;
     private static final int MAX_FAULTS = 2 * MAX_LINES;
     private static final int PATTERNS = 128;
+    private static final int ONE_CYCLE_RUNS = MAX_FAULTS * PATTERNS;
     private static final int MAX_CYCLES = 4;
     private static final int MAX_OBSERVATIONS = 20;
     private static final int INPUT_BITS = (1 << INPUTS) - 1;
@@ -37,7 +38,7 @@ public final class ScanDiagnose {
 
     // Scratch: filled anew by every run, or by every question about alike faults.
     private final int[] lineValue = new int[MAX_LINES];
-    private final int[] oneCycleResponse = new int[MAX_FAULTS * PATTERNS];
+    private final int[] oneCycleResponse = new int[ONE_CYCLE_RUNS];
 
     public ScanDiagnose() {
         for (int k = 0; k < STATES; k++) {
