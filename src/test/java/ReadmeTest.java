@@ -10,7 +10,7 @@ import java.util.regex.Matcher;
 import java.util.regex.Pattern;
 import javax.tools.ToolProvider;
 
-// What README.md shows of the use of the class: it compiles as it stands there, and every call
+// What README.md shows of the use of the class: each call there, put into a check, compiles and
 // answers the number that stands behind it.
 public final class ReadmeTest extends Checks {
   private static final String MAKING = "ScanDiagnose x = new ScanDiagnose();";
